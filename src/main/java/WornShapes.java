@@ -646,7 +646,8 @@ public final class WornShapes {
 
         /** Whether there is a way; if so, way and length tell it. */
         boolean find(long from, long to) {
-            for (length = 0; length <= LONGEST; length++) {
+            for (int tried = 0; tried <= LONGEST; tried++) {
+                length = tried;
                 if (leads(this, from, to, 0)) {
                     return true;
                 }

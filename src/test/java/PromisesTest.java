@@ -422,6 +422,13 @@ public final class PromisesTest {
         x.mix(3, 1, 0, 3);
         x.act(3, OPEN + 1);
         due("opened away", x.shortest(1, 3), 1);
+        x = drawn("##..", "....");
+        x.stamp(1, STAY | RIGHT);
+        x.rule(0, 0);
+        draw(x, 1, "##.#", "....");
+        due("opened is worn and grown", x.shortest(1, 0), 2);
+        due("worn first", x.step(1, 0, 0), WEAR + 1);
+        due("grown then", x.step(1, 0, 1), GROW + 1);
         due("picture 5", x.shortest(0, 5), UNKNOWN);
         due("picture 5", x.shortest(5, 0), UNKNOWN);
         for (int wild : WILD) {
@@ -684,6 +691,13 @@ public final class PromisesTest {
         due("stops", x.thin(0), 4);
         looks(x, 0, "....#", ".#...");
         due("nothing more", x.thin(0), 0);
+        x = drawn("##", "..");
+        x.stamp(1, LEFT);
+        x.stamp(2, STAY | LEFT);
+        x.stamp(3, RIGHT);
+        x.pair(0, 1);
+        x.pair(2, 3);
+        due("a pair sees what the one before it left", x.thin(0), 2);
         due("picture 5", x.thin(5), UNKNOWN);
         for (int wild : WILD) {
             due("picture " + wild, x.thin(wild), UNKNOWN);
@@ -754,6 +768,9 @@ public final class PromisesTest {
         due("one is fewer than two", x.least(0, 1), DOWN);
         draw(x, 0, "#.#", "...", "...");
         due("of two steps the least number", x.least(0, 1), 64 | DOWN);
+        x = drawn("##", "#.", "..");
+        draw(x, 1, "##", "##", "#.");
+        due("two steps before three of a lesser number, 134", x.least(0, 1), STAY | DOWN);
         due("picture 5", x.least(5, 0), UNKNOWN);
         due("picture 5", x.least(0, 5), UNKNOWN);
         for (int wild : WILD) {
