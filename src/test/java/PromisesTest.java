@@ -1,55 +1,6 @@
 /** For each promise runs of calls on new objects, each with the answer that the document asks. */
-public final class PromisesTest {
-    private static final int UNKNOWN = -1, OUTSIDE = -2, STATE = -3, FULL = -4, NONE = -9;
+public final class PromisesTest extends Checks {
     private static final int[] WILD = {-1, Integer.MIN_VALUE, Integer.MAX_VALUE, -49, 1 << 20};
-
-    // steps as weights: where they lead to
-    private static final int UP = 2, LEFT = 8, STAY = 16, RIGHT = 32, DOWN = 128;
-    private static final int CROSS = UP | LEFT | STAY | RIGHT | DOWN, SQUARE = 511;
-    // acts
-    private static final int GROW = 0, WEAR = 10, OPEN = 20, CLOSE = 30, NOT = 40;
-
-    private static int promise = 0;
-    private static int calls = 0;
-    private static int wrong = 0;
-
-    private static void due(String call, long got, long want) {
-        calls++;
-        if (got != want) {
-            wrong++;
-            System.out.println("promise " + promise + ": " + call + " answered " + got + ", due is " + want);
-        }
-    }
-
-    /** A picture drawn by rows: '#' is ink. The field must have that width and height. */
-    private static void draw(WornShapes x, int picture, String... rows) {
-        int cell = 0;
-        for (String row : rows) {
-            for (int i = 0; i < row.length(); i++) {
-                x.ink(picture, cell, row.charAt(i) == '#');
-                cell++;
-            }
-        }
-    }
-
-    private static WornShapes drawn(String... rows) {
-        WornShapes x = new WornShapes();
-        x.field(rows[0].length(), rows.length);
-        draw(x, 0, rows);
-        return x;
-    }
-
-    private static void looks(WornShapes x, int picture, String... rows) {
-        long want = 0L;
-        int cell = 0;
-        for (String row : rows) {
-            for (int i = 0; i < row.length(); i++) {
-                want |= (row.charAt(i) == '#' ? 1L : 0L) << cell;
-                cell++;
-            }
-        }
-        due("number(" + picture + ") of " + String.join("/", rows), x.number(picture), want);
-    }
 
     private static void newObject() {
         WornShapes x = new WornShapes();
@@ -870,7 +821,7 @@ public final class PromisesTest {
     }
 
     private static void check(int which) {
-        promise = which;
+        about("promise " + which);
         switch (which) {
             case 1: newObject(); break;
             case 2: field(); break;
@@ -911,9 +862,6 @@ public final class PromisesTest {
         for (int which = 1; which <= 32; which++) {
             check(which);
         }
-        System.out.println(calls + " answers, " + wrong + " not as due");
-        if (wrong != 0) {
-            System.exit(1);
-        }
+        finish();
     }
 }
