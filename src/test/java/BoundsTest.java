@@ -906,6 +906,22 @@ public final class BoundsTest extends Checks {
         due("stairs", x.covered(0), 4);
     }
 
+    private static void coveredCorner(int w, int h) {
+        about("COVERED: boxes that have all its CELLS together, the first and the last CELL too");
+        WornShapes x = laid(w, h);
+        int last = w * h - 1;
+        put(x, 0, 1L | 1L << last - 1 | 1L << last);
+        due("the first by itself, two at the end", x.covered(0), 2);
+        put(x, 0, 3L | 1L << last);
+        due("two at the beginning, the last by itself", x.covered(0), 2);
+        put(x, 0, 1L | 1L << w | 1L << last);
+        due("a column at the beginning", x.covered(0), 2);
+        put(x, 0, 1L);
+        due("the first", x.covered(0), 1);
+        put(x, 0, 0L);
+        due("none behind all that", x.covered(0), 0);
+    }
+
     private static void aloneCells() {
         about("ALONE is a CELL of it, if just one BOX that no other BOX contains has it");
         WornShapes x = drawn("##.", "###", ".##");
@@ -916,6 +932,72 @@ public final class BoundsTest extends Checks {
     }
 
     // ---- the whole life of an object
+
+    private static long drawnNumber(int i) {
+        long mixed = (i + 1) * 0x9E3779B97F4A7C15L;
+        long other = (i + 7) * 0xC2B2AE3D27D4EB4FL;
+        return i % 3 == 0 ? mixed >>> 15 : (mixed & other) >>> 15;
+    }
+
+    private static long[] askedOf(WornShapes x, long number) {
+        put(x, 0, number);
+        x.mix(3, 0, 0, 1);
+        x.act(1, GROW + 1);
+        int cell = Math.max(0, x.greatest(0, 0));
+        return new long[] {
+            x.covered(0), x.greatest(0, 0), x.greatest(0, 1), x.greatest(0, 2), x.boxes(0, false),
+            x.alone(0, cell), x.count(0, 0), x.count(0, 1), x.piece(0, cell), x.shortest(0, 1),
+            x.step(0, 1, 0), x.step(0, 1, 1), x.explains(0, 1), x.least(0, 1), x.deep(0, cell, 1)
+        };
+    }
+
+    private static void askedAgain() {
+        about("what was asked before does not matter");
+        WornShapes used = laid(7, 7);
+        used.stamp(1, CROSS);
+        for (int i = 0; i < 60; i++) {
+            if (i % 8 == 0) {
+                // behind some 400 calls what is answered would be free
+                used = laid(7, 7);
+                used.stamp(1, CROSS);
+            }
+            WornShapes fresh = laid(7, 7);
+            fresh.stamp(1, CROSS);
+            long[] got = askedOf(used, drawnNumber(i));
+            long[] want = askedOf(fresh, drawnNumber(i));
+            for (int k = 0; k < want.length; k++) {
+                due("picture " + i + ", answer " + k, got[k], want[k]);
+            }
+        }
+        WornShapes x = drawn("#.#", "...", "###");
+        due("three boxes", x.covered(0), 3);
+        draw(x, 0, "...", "...", "#.#");
+        due("two cells of the third box", x.covered(0), 2);
+        draw(x, 0, "###", "...", "..#");
+        due("two boxes", x.covered(0), 2);
+        draw(x, 0, "#.#", "...", "...");
+        due("two cells of the first box", x.covered(0), 2);
+    }
+
+    private static void mixedIntoItself(int w, int h) {
+        about("mix: One PICTURE becomes what two are, though it may be one of the two");
+        WornShapes x = laid(w, h);
+        put(x, 0, chequer(w, h, 0));
+        x.box(1, 0, w - 1, true);
+        int cells = Long.bitCount(chequer(w, h, 0));
+        due("both, itself", x.mix(0, 0, 0, 0), cells);
+        due("one or the other, itself", x.mix(1, 0, 0, 0), cells);
+        due("the first, itself", x.mix(3, 0, 0, 0), cells);
+        due("as it was", x.number(0), chequer(w, h, 0));
+        due("into the second", x.mix(0, 0, 1, 1), (w + 1) / 2);
+        due("into the first", x.mix(2, 0, 1, 0), cells - (w + 1) / 2);
+        due("none of both", x.mix(0, 0, 1, 2), 0);
+        due("all that was", x.mix(1, 0, 1, 1), cells);
+        due("all that was", x.number(1), chequer(w, h, 0));
+        due("none and not all", x.mix(2, 3, 1, 1), 0);
+        due("the first of none", x.mix(3, 4, 0, 0), 0);
+        due("the first of none", x.number(0), 0);
+    }
 
     private static void lastCall() {
         about("An object is used for at most 512 calls");
@@ -973,6 +1055,9 @@ public final class BoundsTest extends Checks {
         coveredMost();
         aloneCells();
         lastCall();
+        askedAgain();
+        onAllFields(BoundsTest::coveredCorner);
+        onAllFields(BoundsTest::mixedIntoItself);
         onAllFields(BoundsTest::cellNumbers);
         onAllFields(BoundsTest::lastCell);
         onAllFields(BoundsTest::otherField);
